@@ -14,6 +14,7 @@ public final class CylinderTest {
         cement();
         arrange();
         arrangeOrder();
+        arrangeWritten();
         arrangeDampers();
         arrangeFull();
         Check.end("CylinderTest");
@@ -205,7 +206,7 @@ public final class CylinderTest {
             Check.noIndex(box, "arrange no air of it", () -> box.arrange(air));
         }
         box.pin(1, 50, 9, 1);
-        box.pin(0, 50, 9, 1);
+        box.pin(0, 50, 10, 1);
         Check.same("arrange an empty sheet", box.arrange(1), 0);
         Check.same("its pins are gone", box.pins(1), 0);
         Check.same("the other air's are not", box.pins(0), 1);
@@ -260,19 +261,56 @@ public final class CylinderTest {
         full.write(0, 10, 59, 2);
         full.write(0, 10, 59, 3);
         Check.same("by parts", full.arrange(0), 2);
-        Check.same("the lower part", full.pull(0, 10, 0), 0);
+        Check.same("the lower part", full.pull(0, 10, 2), 0);
         full.erase(0);
         full.write(0, 10, 60, 1);
         full.write(0, 10, 59, 1);
         Check.same("by notes", full.arrange(0), 1);
-        Check.same("the lower note", full.pull(0, 10, 1), 0);
+        Check.same("the lower note", full.pull(0, 10, 3), 0);
     }
 
-    /** Air 0 is empty, air 2 has so many pins that just some are left. */
+    /** However they are written, notes come by ticks, by parts, by notes: the first ones get the room. */
+    private static void arrangeWritten() {
+        int[][] due = {{5, 62, 3}, {50, 62, 0}, {50, 59, 1}, {50, 61, 1}, {50, 60, 2}, {90, 59, 0}};
+        for (int turn = 0; turn < 720; turn++) {
+            int[] order = orderOf(turn);
+            int room = 1 + turn % 5;
+            CombCylinder box = fullBut(room);
+            for (int i : order) {
+                box.write(0, due[i][0], due[i][1], due[i][2]);
+            }
+            Check.same("the others are left out", box.arrange(0), 6 - room);
+            for (int i = 0; i < room; i++) {
+                Check.same("pin of " + i, box.pull(0, due[i][0], 62 - due[i][1]), 0);
+            }
+        }
+    }
+
+    /** One of the 720 orders of 0 to 5. */
+    private static int[] orderOf(int turn) {
+        int[] order = new int[6];
+        boolean[] used = new boolean[6];
+        int rest = turn;
+        for (int i = 0; i < 6; i++) {
+            int skip = rest % (6 - i);
+            rest /= 6 - i;
+            int at = 0;
+            while (used[at] || skip > 0) {
+                skip -= used[at] ? 0 : 1;
+                at++;
+            }
+            used[at] = true;
+            order[i] = at;
+        }
+        return order;
+    }
+
+    /** A box with 62, 61, 60 and 59; air 0 is empty, air 2 has so many pins that just some are left. */
     private static CombCylinder fullBut(int left) {
         CombCylinder box = new CombCylinder();
-        box.tooth(0, 200, 0);
-        box.tooth(1, 205, 0);
+        for (int place = 0; place < 4; place++) {
+            box.tooth(place, 190 + 5 * place, 0);
+        }
         box.cylinder(600, 3);
         for (int i = 0; i < 60 - left; i++) {
             box.pin(2, 2 * i, 5, 0);

@@ -9,6 +9,7 @@ public final class RunTest {
         countsByRun();
         order();
         orderOfOneTick();
+        firstOfTwo();
         orderAtTheBeginning();
         shiftAndReach();
         replacedVoice();
@@ -134,6 +135,28 @@ public final class RunTest {
         Check.same("air 0 tick 10 strikes", box.pull(0, 10, 0), 1);
         Check.same("air 0 tick 12 strikes", box.pull(0, 12, 0), -1);
         Check.same("air 2 does not", box.pull(2, 10, 0), 0);
+    }
+
+    /** A weak tooth breaks by the pin that comes first, so just this one leans. */
+    private static void firstOfTwo() {
+        int[][] firstAndOther = {
+            {0, 8, 2, 0, 10, 0}, {0, 10, 0, 0, 12, -2}, {0, 12, -2, 2, 8, 2}, {2, 8, 2, 4, 10, 0},
+            {4, 2, -2, 0, 1, 0}, {4, 0, 0, 0, 39, 2}, {4, 39, 2, 0, 2, 0}, {3, 1, 1, 1, 3, 0}};
+        for (int[] f : firstAndOther) {
+            CombCylinder box = new CombCylinder();
+            box.tooth(0, 200, 2);
+            box.file(0, 't', 60);
+            box.cylinder(40, 5);
+            box.shift(2);
+            box.pin(f[3], f[4], 0, f[5]);
+            box.pin(f[0], f[1], 0, f[2]);
+            Check.same("a weak one breaks", box.run(), 1);
+            Check.same("the other does not lean", box.pull(f[3], f[4], 0), f[5]);
+            Check.same("the first leans, or is out", box.pins(f[0]), f[2] == 2 ? 0 : 1);
+            if (f[2] < 2) {
+                Check.same("it leans", box.pull(f[0], f[1], 0), f[2] + 1);
+            }
+        }
     }
 
     /** A pin that leans on into a later tick strikes just once in its turn. */

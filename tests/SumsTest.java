@@ -101,9 +101,9 @@ public final class SumsTest {
         Check.same("checksum of nothing", box.checksum(), 31L * 7);
         box.bell(24, 60);
         box.tooth(3, 200, 0);
-        box.cylinder(40, 2);
+        box.cylinder(40, 3);
         box.wind(2);
-        box.pin(1, 3, 24, -1);
+        box.pin(2, 3, 24, -1);
         box.pin(0, 9, 3, 0);
         box.pin(0, 3, 24, 2);
         box.pin(0, 3, 3, 1);
@@ -117,8 +117,8 @@ public final class SumsTest {
         box.run();
         box.pin(1, 20, 3, 0);
         box.pin(0, 1, 24, 0);
-        // The run broke 3, its first pin fell out at the second strike; so did the first one of 24.
-        long[] then = {6000, 5, 6000, 2, 1, 24, 0, 3, 3, 2, 9, 3, 2, 3, 24, -1, 20, 3, 0, 7};
+        // The run broke 3 at its third strike, by which a pin fell out; one of 24 fell out at once.
+        long[] then = {6000, 5, 6000, 2, 1, 24, 0, 9, 3, 1, 20, 3, 0, 3, 24, -1, 7};
         long sumThen = 7;
         for (long part : then) {
             sumThen = 31 * sumThen + part;

@@ -172,6 +172,12 @@ public final class TuningTest {
         box.write(0, 3, 60, 0);
         Check.same("60 three times and 65", box.tunings(), 4);
         Check.same("all have 60", box.lost(2), 60);
+        box.erase(0);
+        for (int i = 0; i < 4; i++) {
+            box.write(0, 3, 60 + i % 2, i);
+        }
+        Check.same("60 and 61 twice", box.tunings(), 6);
+        Check.same("the last has 61", box.lost(2), 61);
     }
 
     private static void tooMany() {

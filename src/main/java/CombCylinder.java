@@ -28,6 +28,8 @@ public final class CombCylinder {
     private static final int MOST_TURNS = 40;
     private static final int RUN_TURNS = 3;
     private static final int MOST_LOST = 3;
+    private static final long LEAST_INT = -2147483648L;
+    private static final long GREATEST_INT = 2147483647L;
     /** Stands for a pin's note where it has none: no voice in tune has a note below 0. */
     private static final int ASIDE = -1;
     /** What Double.doubleToLongBits tells of 0 divided by 0. */
@@ -476,7 +478,7 @@ public final class CombCylinder {
     private void findTunings() {
         tuner.lostCount = 0;
         for (int place = 0; place < TEETH; place++) {
-            if (voices[place].isThere && voices[place].broken && drum.hasPinFor(place)) {
+            if (voices[place].isThere && voices[place].broken && drum.firstPinFor(place) >= 0) {
                 if (tuner.lostCount >= MOST_LOST) {
                     throw new UnsupportedOperationException("too many teeth are lost");
                 }
@@ -538,7 +540,7 @@ public final class CombCylinder {
 
     public int takings(int price) {
         long all = (long) coinsTaken * (long) price;
-        return (int) Math.max((long) Integer.MIN_VALUE, Math.min((long) Integer.MAX_VALUE, all));
+        return (int) Math.max(LEAST_INT, Math.min(GREATEST_INT, all));
     }
 
     // Sums over the box
@@ -930,13 +932,13 @@ public final class CombCylinder {
             return -1;
         }
 
-        boolean hasPinFor(int place) {
+        int firstPinFor(int place) {
             for (int i = 0; i < size; i++) {
                 if (pins[i].place == place) {
-                    return true;
+                    return i;
                 }
             }
-            return false;
+            return -1;
         }
 
         /** How far two ticks are apart by the shorter way round. */
@@ -1097,7 +1099,11 @@ public final class CombCylinder {
         private void findChoices(int which, Drum drum, Sheet[] sheets) {
             choiceCounts[which] = 0;
             int place = lostPlaces[which];
-            Pin pin = firstPinOf(place, drum);
+            int at = drum.firstPinFor(place);
+            if (at < 0) {
+                return;
+            }
+            Pin pin = drum.pins[at];
             Sheet sheet = sheets[pin.air];
             int number = sheet.nextNumber(pin.tick, 0);
             for (int i = 0; i < MOST_NOTES && number != ASIDE; i++) {
@@ -1109,15 +1115,6 @@ public final class CombCylinder {
                 number = sheet.nextNumber(pin.tick, number);
             }
             given[place] = ASIDE;
-        }
-
-        private static Pin firstPinOf(int place, Drum drum) {
-            for (int i = 0; i < drum.size; i++) {
-                if (drum.pins[i].place == place) {
-                    return drum.pins[i];
-                }
-            }
-            return drum.pins[0];
         }
 
         /** Gives this lost tooth and those behind it all of their choices; it goes 3 deep at most. */

@@ -74,6 +74,10 @@ public final class TuningTest {
         box.write(0, 3, 71, 2);
         Check.same("three notes", box.tunings(), 3);
         Check.same("the least", box.lost(0), 70);
+        box.write(0, 3, 120, 0);
+        box.write(0, 3, 1, 0);
+        Check.same("five notes", box.tunings(), 5);
+        Check.same("the least of five", box.lost(0), 1);
         box.pin(1, 20, 0, 0);
         Check.same("the other air has none", box.tunings(), 0);
         box.write(1, 20, 71, 0);

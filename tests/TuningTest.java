@@ -18,19 +18,6 @@ public final class TuningTest {
         Check.end("TuningTest");
     }
 
-    /** A box with broken teeth at the first places, and a cylinder without pins. */
-    private static CombCylinder brokenBox(int teeth, int ticks, int airs) {
-        CombCylinder box = new CombCylinder();
-        box.cylinder(40, 1);
-        for (int place = 0; place < teeth; place++) {
-            box.tooth(place, 200, 0);
-            box.pin(0, 5, place, -2);
-        }
-        Check.same("all break", box.run(), teeth);
-        box.cylinder(ticks, airs);
-        return box;
-    }
-
     private static void noneLost() {
         CombCylinder box = new CombCylinder();
         Check.noState(box, "tunings without a cylinder", box::tunings);
@@ -60,7 +47,7 @@ public final class TuningTest {
     }
 
     private static void oneLost() {
-        CombCylinder box = brokenBox(1, 50, 2);
+        CombCylinder box = Boxes.broken(1, 50, 2);
         Check.same("broken without pins is not lost", box.tunings(), 1);
         Check.noElement(box, "lost without pins", () -> box.lost(0));
         box.pin(0, 3, 0, 1);
@@ -98,7 +85,7 @@ public final class TuningTest {
     }
 
     private static void asOftenAsThere() {
-        CombCylinder box = brokenBox(1, 50, 1);
+        CombCylinder box = Boxes.broken(1, 50, 1);
         box.tooth(1, 200, 0);
         box.pin(0, 3, 0, 0);
         box.pin(0, 3, 1, 0);
@@ -119,7 +106,7 @@ public final class TuningTest {
     }
 
     private static void severalLost() {
-        CombCylinder box = brokenBox(3, 50, 1);
+        CombCylinder box = Boxes.broken(3, 50, 1);
         for (int place = 0; place < 3; place++) {
             box.pin(0, 10 * place, place, 0);
         }
@@ -141,7 +128,7 @@ public final class TuningTest {
     }
 
     private static void sameNote() {
-        CombCylinder box = brokenBox(2, 50, 2);
+        CombCylinder box = Boxes.broken(2, 50, 2);
         box.pin(0, 3, 0, 0);
         box.pin(0, 3, 1, 0);
         box.write(0, 3, 60, 0);
@@ -163,7 +150,7 @@ public final class TuningTest {
     }
 
     private static void threeInOneTick() {
-        CombCylinder box = brokenBox(3, 50, 1);
+        CombCylinder box = Boxes.broken(3, 50, 1);
         for (int place = 0; place < 3; place++) {
             box.pin(0, 3, place, 0);
         }
@@ -185,7 +172,7 @@ public final class TuningTest {
     }
 
     private static void tooMany() {
-        CombCylinder box = brokenBox(5, 50, 1);
+        CombCylinder box = Boxes.broken(5, 50, 1);
         for (int place = 0; place < 3; place++) {
             box.pin(0, 3, place, 0);
         }
@@ -206,7 +193,7 @@ public final class TuningTest {
     }
 
     private static void notLost() {
-        CombCylinder box = brokenBox(2, 50, 1);
+        CombCylinder box = Boxes.broken(2, 50, 1);
         box.pin(0, 3, 0, 0);
         box.write(0, 3, 60, 0);
         Check.noElement(box, "broken without pins", () -> box.lost(1));
@@ -218,7 +205,7 @@ public final class TuningTest {
 
     /** Tunings are in order by the lowest tooth, whatever its pins are. */
     private static void lostOrder() {
-        CombCylinder box = brokenBox(2, 50, 1);
+        CombCylinder box = Boxes.broken(2, 50, 1);
         box.pin(0, 30, 0, 0);
         box.pin(0, 3, 1, 0);
         box.write(0, 30, 90, 0);
@@ -232,7 +219,7 @@ public final class TuningTest {
 
     /** Airs of the cylinder alone are looked at, but each of them. */
     private static void otherPins() {
-        CombCylinder box = brokenBox(1, 50, 2);
+        CombCylinder box = Boxes.broken(1, 50, 2);
         box.pin(0, 3, 0, 0);
         box.write(0, 3, 60, 0);
         box.write(4, 3, 61, 0);
@@ -282,7 +269,7 @@ public final class TuningTest {
     }
 
     private static void wide() {
-        CombCylinder box = brokenBox(3, 50, 6);
+        CombCylinder box = Boxes.broken(3, 50, 6);
         for (int air = 0; air < 6; air++) {
             for (int i = 0; i < 30; i++) {
                 box.write(air, 0, 120 - i, 0);
@@ -333,7 +320,7 @@ public final class TuningTest {
         Check.noElement(box, "another air", () -> box.known(1));
         box.write(0, 20, 60, 0);
         Check.same("another air is known", box.known(1), 0);
-        CombCylinder broken = brokenBox(1, 50, 1);
+        CombCylinder broken = Boxes.broken(1, 50, 1);
         broken.pin(0, 3, 0, 0);
         broken.write(2, 3, 60, 0);
         Check.noElement(broken, "broken ones have no note", () -> broken.known(0));

@@ -6,8 +6,14 @@ final class Check {
 
     private static int wrong = 0;
     private static int made = 0;
+    /** What is being tested, told ahead of each wrong answer. */
+    private static String about = "";
 
     private Check() {
+    }
+
+    static void about(String text) {
+        about = text;
     }
 
     static void same(String what, long got, long due) {
@@ -62,6 +68,16 @@ final class Check {
         }
     }
 
+    /** The call throws nothing. */
+    static void takes(String what, Call call) {
+        made++;
+        try {
+            call.make();
+        } catch (RuntimeException e) {
+            tell(what + " threw " + e.getClass().getSimpleName() + ", due is nothing");
+        }
+    }
+
     static void noIndex(CombCylinder box, String what, Call call) {
         fails(box, what, IndexOutOfBoundsException.class, call);
     }
@@ -85,7 +101,7 @@ final class Check {
     static void tell(String text) {
         wrong++;
         if (wrong <= 40) {
-            System.out.println(text);
+            System.out.println(about + text);
         }
     }
 

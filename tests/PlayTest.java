@@ -85,18 +85,19 @@ public final class PlayTest {
     }
 
     private static void speed() {
-        CombCylinder box = new CombCylinder();
-        box.wind(20);
-        box.cylinder(40, 1);
-        for (int quarters = 80; quarters >= 0; quarters--) {
-            for (int fan = 1; fan <= 50 && quarters % 8 == 0; fan++) {
-                box.fan(fan);
-                Check.same("speed " + quarters + " " + fan, box.speedBits(),
-                        Float.floatToIntBits((float) (10 + quarters) / (float) fan));
+        for (int left = 80; left >= 0; left -= 8) {
+            CombCylinder box = new CombCylinder();
+            box.wind(20);
+            box.cylinder(40, 1);
+            for (int quarters = 80; quarters > left; quarters--) {
+                Check.same("speed " + quarters, box.speedBits(), Float.floatToIntBits((10 + quarters) / 10f));
+                box.play(1);
             }
-            box.fan(10);
-            Check.same("speed " + quarters, box.speedBits(), Float.floatToIntBits((10 + quarters) / 10f));
-            box.play(1);
+            for (int fan = 1; fan <= 50; fan++) {
+                box.fan(fan);
+                Check.same("speed " + left + " " + fan, box.speedBits(),
+                        Float.floatToIntBits((float) (10 + left) / (float) fan));
+            }
         }
     }
 

@@ -218,7 +218,7 @@ final class PlayEdges {
     }
 
     private static void snailTurns() {
-        Edge.of("Spring", "With the snail, the shift is the next air behind each turn, the first one behind the last", () -> {
+        Edge.of("Spring", "the shift is the next air behind each turn, the first one behind the last one", () -> {
             for (int airs = 1; airs <= 6; airs++) {
                 CombCylinder box = new CombCylinder();
                 box.cylinder(40, airs);

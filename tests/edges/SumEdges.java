@@ -82,7 +82,7 @@ final class SumEdges {
         Edge.of("Coins", "The takings are the coins that were taken times a price", () -> {
             int[] prices = {Integer.MIN_VALUE, -1073741825, -1073741824, -715827883, -715827882, -4294968, -1, 0, 1,
                 4294968, 715827882, 715827883, 1073741823, 1073741824, Integer.MAX_VALUE};
-            for (int coins : new int[] {0, 1, 2, 3, 4, 500}) {
+            for (int coins : new int[] {0, 1, 2, 3, 4, 490}) {
                 CombCylinder box = withCoins(coins);
                 for (int price : prices) {
                     long all = Math.max(Integer.MIN_VALUE, Math.min(Integer.MAX_VALUE, (long) coins * price));

@@ -288,6 +288,25 @@ final class TuningEdges {
                 most.pin(2 * place, 49, place, 0);
             }
             Check.same("the most", most.tunings(), 30 * 30 * 30);
+            Boxes.fill(most, 60);
+            Check.same("pins without voices, a full cylinder", most.tunings(), 30 * 30 * 30);
+            most.tooth(10, 200, 0);
+            Check.same("one voice more, whose notes are on no sheet", most.tunings(), 0);
+        });
+        Edge.of("36", "Returns how many, 1 if no tooth is lost and all is as it must be", () -> {
+            CombCylinder full = new CombCylinder();
+            for (int place = 10; place < 13; place++) {
+                full.tooth(place, 205, 0);
+            }
+            full.cylinder(50, 1);
+            Boxes.fill(full, 60);
+            for (int i = 0; i < 20; i++) {
+                full.write(0, 2 * i, 59, 0);
+            }
+            Check.same("three pins at each tick for one note", full.tunings(), 0);
+            full.tooth(11, 201, 0);
+            full.tooth(12, 201, 0);
+            Check.same("each note of a full cylinder", full.tunings(), 1);
         });
         Edge.of("36", NO_CYLINDER, () ->
             Twins.refuses("tunings", Boxes::noCylinder, Twins.STATE, CombCylinder::tunings));

@@ -243,6 +243,7 @@ final class VoiceEdges {
                 Check.same("note of " + m[3], box.note(0), m[4]);
             }
         });
+        Edge.of("Pitch", "The note of a voice is the pitch and 50, divided by 100, cut", VoiceEdges::wornBelowZero);
         Edge.of("Pitch", "it is in tune if the pitch is not more than 5 from 100 times that", () -> {
             int[][] made = {{0, 0, 0, 6000, 1}, {2, 0, 1, 6005, 1}, {3, 1, 0, 6006, 0}, {1, 0, 3, 5995, 1},
                 {0, 1, 0, 5994, 0}, {13, 0, 1, 6049, 0}, {14, 1, 0, 6050, 0}, {30, 4, 0, 6096, 1},
@@ -254,6 +255,32 @@ final class VoiceEdges {
                 Check.same("in tune at " + m[3], box.isInTune(0) ? 1 : 0, m[4]);
             }
         });
+    }
+
+    /** The lowest tooth, worn by so many strikes that its pitch goes below 0. */
+    private static void wornBelowZero() {
+        CombCylinder box = new CombCylinder();
+        box.tooth(0, 400, 0);
+        box.file(0, 'r', 60);
+        box.lead(0, 50);
+        box.lead(0, 50);
+        box.cylinder(600, 1);
+        for (int i = 0; i < 60; i++) {
+            box.pin(0, 2 * i, 0, 0);
+        }
+        box.write(0, 0, 1, 0);
+        for (int turns = 40; turns <= 1320; turns += 40) {
+            Boxes.play(box, 40);
+            int pitch = 1340 - turns * 60 / 50;
+            int note = pitch >= 50 ? (pitch + 50) / 100 : pitch > -150 ? 0 : -1;
+            Check.same("pitch", box.pitch(0), pitch);
+            Check.same("note of " + pitch, box.note(0), note);
+            boolean isTuned = Math.abs(pitch - 100 * note) <= 5;
+            Check.same("in tune at " + pitch, box.isInTune(0) ? 1 : 0, isTuned ? 1 : 0);
+            Check.same("not as it must be, unless left aside, at " + pitch, box.tunings(), isTuned ? 0 : 1);
+            Check.same("off at " + pitch, box.meanOffBits(), Double.doubleToLongBits(Math.abs(pitch - 100 * note)));
+        }
+        Check.same("the lowest", box.pitch(0), -244);
     }
 
     private static void dampers() {
